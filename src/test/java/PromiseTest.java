@@ -211,9 +211,16 @@ public final class PromiseTest {
         new Run("promise 17, four").load("00000;01010;00000;01010;00000;", 5).calls("holes(0)=4");
         new Run("promise 17, by a corner").load("0000;0100;0010;0000;", 3).calls("holes(0)=1");
         new Run("promise 17, two panes in it").load("0000;0120;0000;", 3).calls("holes(0)=1");
-        new Run("promise 17, at the edge").load("000;010;010;", 2).calls("holes(0)=0");
+        new Run("promise 17, at the edge below").load("000;010;010;", 2).calls("holes(0)=0");
+        new Run("promise 17, at the edge above").load("010;010;000;", 2).calls("holes(0)=0");
+        new Run("promise 17, at the left edge").load("000;110;000;", 2).calls("holes(0)=0");
+        new Run("promise 17, at the right edge").load("000;011;000;", 2).calls("holes(0)=0");
         new Run("promise 17, to the edge by a corner").load("1000;0100;0000;0000;", 3)
                 .calls("holes(1)=0 paneSize(1)=14");
+        new Run("promise 17, to the edge by a corner").load("0000;0000;0100;1000;", 3)
+                .calls("holes(0)=0 paneSize(0)=14");
+        new Run("promise 17, to the edge by a corner").load("0001;0010;0000;0000;", 3)
+                .calls("holes(0)=0 paneSize(0)=14");
         new Run("promise 17, nested").load(FRAME_OF_RINGS, 3)
                 .calls("holes(0)=1 holes(1)=1 holes(2)=0");
         new Run("promise 17, by cuts").calls("addCut(0,1,1)=1 addCut(1,0,0)=2 addCut(1,1,0)=3"
@@ -287,10 +294,13 @@ public final class PromiseTest {
                         + " setCornerLimit(0)=1 splitPieces(0)=3 splitLead(0)=2");
         new Run("promises 24 and 25, pieces before lead").load("00000;00001;", 2)
                 .calls("setCellLimit(5)=12 setCornerLimit(0)=1 splitPieces(0)=2 splitLead(0)=4");
+        new Run("promise 25, asked first").load("00000;00001;", 2)
+                .calls("setCellLimit(5)=12 splitLead(0)=2 splitLead(1)=0 splitLead(0)=2");
         new Run("promises 24 and 25, lead within pieces").load("0000;0000;", 1)
                 .calls("setCellLimit(4)=12 splitPieces(0)=2 splitLead(0)=2");
         new Run("promises 24 and 25, a cut costs no lead").load("0000;0000;", 1)
-                .calls("addCut(0,1,0)=1 setCellLimit(4)=12 splitPieces(0)=2 splitLead(0)=1");
+                .calls("addCut(0,1,0)=1 setCellLimit(4)=12 splitPieces(0)=2 splitLead(0)=1"
+                        + " removeLooseCuts()=1 splitLead(0)=2");
         new Run("promises 24 and 25, a ring").load("0000;0110;0000;", 2)
                 .calls("splitPieces(0)=3 splitLead(0)=3 setCornerLimit(2)=1 splitPieces(0)=2"
                         + " splitLead(0)=2");
