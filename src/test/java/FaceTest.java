@@ -60,6 +60,14 @@ public final class FaceTest {
         }
     }
 
+    private static boolean isInFace(String name) {
+        boolean found = false;
+        for (String known : METHODS) {
+            found |= known.startsWith(name + "/");
+        }
+        return found;
+    }
+
     private static boolean onlyInts(Method method) {
         boolean ints = method.getReturnType() == int.class;
         for (Class<?> type : method.getParameterTypes()) {
@@ -89,13 +97,17 @@ public final class FaceTest {
             isTrue(type + " is static", Modifier.isStatic(modifiers));
             isTrue(type + " is hidden", !Modifier.isPublic(modifiers)
                     && !Modifier.isProtected(modifiers));
+            int fields = 0;
             for (Field field : type.getDeclaredFields()) {
                 boolean fixed = Modifier.isFinal(field.getModifiers());
-                isTrue(field + " is no changing static", fixed
-                        || !Modifier.isStatic(field.getModifiers()));
+                boolean constant = Modifier.isStatic(field.getModifiers());
+                isTrue(field + " is no changing static", fixed || !constant);
+                fields += constant ? 0 : 1;
             }
+            isTrue(type + " has at most twenty fields", fields <= 20);
             for (Method method : type.getDeclaredMethods()) {
                 isTrue(method + " has seven parameters at most", method.getParameterCount() <= 7);
+                isTrue(method + " bears a name of its own", !isInFace(method.getName()));
             }
         }
     }

@@ -97,6 +97,23 @@ final class PlanSentences {
         }
         follows.on("0000000;".repeat(7), 1, "setCellLimit(1)=12 splitPieces(0)=49 splitLead(0)=84"
                 + " applySplit(0)=49 leadLength()=84");
+        theOtherWayWithin(follows);
+    }
+
+    /** One of the two parts is divided by a line that lies the other way than the first one. */
+    private static void theOtherWayWithin(Sentence follows) {
+        follows.on("01;00;00;01;", 3, "setCellLimit(2)=12 splitPieces(0)=3 splitLead(0)=3"
+                + " applySplit(0)=5 paneAt(1,0)=0 paneAt(1,1)=2 paneAt(2,1)=2 paneAt(2,0)=3"
+                + " paneAt(3,0)=3")
+                .on("10;00;00;10;", 3, "setCellLimit(2)=12 splitPieces(1)=3 splitLead(1)=3"
+                        + " applySplit(1)=5 paneAt(0,1)=1 paneAt(1,1)=1 paneAt(1,0)=2"
+                        + " paneAt(2,0)=2 paneAt(2,1)=3 paneAt(3,1)=3")
+                .on("0000;1001;", 3, "setCellLimit(2)=12 splitPieces(0)=3 splitLead(0)=3"
+                        + " applySplit(0)=5 paneAt(0,1)=0 paneAt(0,2)=1 paneAt(0,3)=1"
+                        + " paneAt(1,1)=3 paneAt(1,2)=3")
+                .on("1001;0000;", 3, "setCellLimit(2)=12 splitPieces(1)=3 splitLead(1)=3"
+                        + " applySplit(1)=5 paneAt(0,1)=1 paneAt(0,2)=1 paneAt(1,0)=3"
+                        + " paneAt(1,1)=3 paneAt(1,2)=4 paneAt(1,3)=4");
     }
 
     private static void sums() {
@@ -110,6 +127,7 @@ final class PlanSentences {
                         + " setCellLimit(4)=2 splitLead(0)=2")
                 .calls("setCellLimit(4)=12 splitPieces(0)=3 splitLead(0)=5")
                 .on("000;011;011;000;", 2, "setCellLimit(4)=12 splitPieces(0)=2 splitLead(0)=1")
+                .on("0000;0110;0110;", 2, "setCellLimit(4)=12 splitPieces(0)=2 splitLead(0)=1")
                 .on("0000;0000;", 1, "addCut(0,1,0)=1 setCellLimit(4)=12 splitLead(0)=1"
                         + " addCut(1,1,0)=2 splitPieces(0)=1 splitLead(0)=0");
     }
@@ -160,6 +178,8 @@ final class PlanSentences {
                         + " applySplit(0)=4 removeCut(0,0,0)=3 removeCut(1,0,0)=2"
                         + " removeCut(0,0,1)=1 removeCut(0,1,1)=0")
                 .on("000;011;011;000;", 2, "setCellLimit(4)=12 applySplit(0)=3 paneSize(1)=4"
-                        + " removeCut(1,0,1)=0");
+                        + " removeCut(1,0,1)=0")
+                .on("0000;0110;0110;", 2, "setCellLimit(4)=12 applySplit(0)=3 paneAt(0,2)=1"
+                        + " paneSize(2)=4 removeCut(0,1,0)=0");
     }
 }

@@ -223,7 +223,9 @@ final class PromiseSentences {
                 + " removeCut(1,1,0)=-2 removeCut(1,1,1)=-2 removeCut(0,0,1)=1 removeCut(0,0,0)=0");
         of(12, "(This does not change the panes.)").calls("addCut(0,0,0)=1 addCut(0,0,1)=2"
                 + " addCut(1,1,0)=3 paneCount()=2 removeLooseCuts()=1 paneCount()=2 paneSize(0)=1"
-                + " paneSize(1)=8 paneAt(0,0)=0");
+                + " paneSize(1)=8 paneAt(0,0)=0")
+                .on("0000;0000;", 1, "setCellLimit(4)=12 addCut(0,1,0)=1 splitLead(0)=1"
+                        + " removeLooseCuts()=1 paneCount()=1 splitLead(0)=2");
         of(12, "Returns the number of cuts removed").calls("addCut(1,1,0)=1 removeLooseCuts()=1"
                 + " addCut(1,1,1)=1 addCut(0,1,1)=2 addCut(1,0,0)=3 removeLooseCuts()=3");
         of(12, "INVALID_STATE if there was none.").calls("removeLooseCuts()=-2")
@@ -304,7 +306,8 @@ final class PromiseSentences {
 
     private static void setCellLimit() {
         of(22, "Sets the cell limit.").calls("setCellLimit(8)=12 canBeCut(0)=0 setCellLimit(9)=8"
-                + " canBeCut(0)=1");
+                + " canBeCut(0)=1 splitPieces(0)=1 setCellLimit(8)=9 splitPieces(0)=2 undo()=2"
+                + " splitPieces(0)=1");
         of(22, "`limit`: 1 to 49").calls("setCellLimit(0)=-1 setCellLimit(1)=12 setCellLimit(49)=1"
                 + " setCellLimit(50)=-1 setCellLimit(12)=49");
         of(22, "Returns the previous limit").calls("setCellLimit(20)=12 setCellLimit(20)=20"
@@ -316,7 +319,8 @@ final class PromiseSentences {
 
     private static void setCornerLimit() {
         of(23, "Sets the corner limit.").on("00;01;", 2, "canBeCut(0)=1 setCornerLimit(0)=1"
-                + " canBeCut(0)=0 setCornerLimit(1)=0 canBeCut(0)=1");
+                + " canBeCut(0)=0 setCornerLimit(1)=0 canBeCut(0)=1 splitPieces(0)=1"
+                + " setCornerLimit(0)=1 splitPieces(0)=2 undo()=3 splitPieces(0)=1");
         of(23, "`limit`: 0 to 8").calls("setCornerLimit(-1)=-1 setCornerLimit(0)=1"
                 + " setCornerLimit(8)=0 setCornerLimit(9)=-1 setCornerLimit(1)=8");
         of(23, "Returns the previous limit").calls("setCornerLimit(5)=1 setCornerLimit(5)=5"
