@@ -459,24 +459,19 @@ public final class GlassPlanner {
             return Long.bitCount(cutsRight) + Long.bitCount(cutsBelow);
         }
 
-        boolean isJoined(int row, int column, int side) {
-            if (!hasPair(row, column, side) || hasCut(row, column, side)) {
-                return false;
-            }
-            int other = side == 0 ? Cells.number(row, column + 1) : Cells.number(row + 1, column);
-            return colours[Cells.number(row, column)] == colours[other];
-        }
-
+        /** The joined neighbours, by their left cells (side 0) or their upper ones (side 1). */
         long joined(int side) {
-            long set = 0;
+            int step = side == 0 ? 1 : Cells.STRIDE;
+            long alike = 0;
             for (int row = 0; row < rows; row++) {
                 for (int column = 0; column < columns; column++) {
-                    if (isJoined(row, column, side)) {
-                        set |= Cells.only(row, column);
+                    int cell = Cells.number(row, column);
+                    if (hasPair(row, column, side) && colours[cell] == colours[cell + step]) {
+                        alike |= 1L << cell;
                     }
                 }
             }
-            return set;
+            return alike & ~(side == 0 ? cutsRight : cutsBelow);
         }
     }
 

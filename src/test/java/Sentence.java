@@ -1,6 +1,3 @@
-import java.io.IOException;
-import java.nio.file.Files;
-import java.nio.file.Path;
 import java.util.ArrayList;
 import java.util.Arrays;
 import java.util.List;
@@ -45,10 +42,10 @@ final class Sentence {
     }
 
     /** Counts it as wrong if a word of these sections of the document has no test. */
-    static void checkDocument(Path document) throws IOException {
+    static void checkDocument(List<String> lines) {
         String section = "";
         StringBuilder text = new StringBuilder();
-        for (String line : Files.readAllLines(document)) {
+        for (String line : lines) {
             if (line.startsWith("## ")) {
                 checkSection(section, text.toString());
                 section = line.substring(3).split(":")[0];
