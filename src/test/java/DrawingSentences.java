@@ -133,6 +133,8 @@ final class DrawingSentences {
                 + " by a chain of joined neighbours.")
                 .on("000;010;000;", 2, "paneSize(0)=8 paneSize(1)=1")
                 .on("01;10;", 4, "paneSize(0)=1")
+                .on("010;111;101;111;", 4, "paneSize(1)=9 paneAt(3,1)=1")
+                .on("01000;00010;00000;", 3, "paneSize(0)=13 paneAt(1,4)=0")
                 .on("0000000;1111110;0000000;0111111;0000000;1111110;0000000;", 4,
                         "paneSize(0)=31 paneAt(6,0)=0 setColour(3,0,1)=0 paneSize(0)=15"
                                 + " paneAt(4,0)=3")
@@ -155,6 +157,8 @@ final class DrawingSentences {
                 .calls("neighbourCount(0)=0 addCut(1,1,0)=1 neighbourCount(0)=0 setColour(1,1,3)=0"
                         + " neighbourCount(0)=1 neighbourCount(1)=1")
                 .on("01;23;", 4, "neighbourCount(0)=2 neighbourCount(3)=2")
+                .on("010;020;000;", 3, "neighbourCount(0)=2 neighbourCount(1)=2")
+                .on("000;120;000;", 3, "neighbourCount(0)=2 neighbourCount(1)=2")
                 .on("00;00;", 1, "addCut(0,0,1)=1 addCut(0,1,1)=2 neighbourCount(0)=1"
                         + " neighbourCount(1)=1")
                 .on("0000000;1213121;", 8, "neighbourCount(0)=7 neighbourCount(1)=2"
