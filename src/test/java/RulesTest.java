@@ -71,6 +71,8 @@ public final class RulesTest {
         seen(4, "private int f(int n) { return Math.addExact(n, 1); }");
         seen(4, "private double f(double n) { return Math.sqrt(n); }");
         seen(4, "private int f() { return new java.util.Random().nextInt(); }");
+        seen(4, "private final Object a = new Object();");
+        seen(4, "private final int a = \"text\" == null ? 1 : 2;");
         seen(4, "private int a = 1; /* " + (char) 233 + " */");
         seen(5, "private static int count = 0;");
         seen(5, "private static final int[] A; static { A = new int[1]; }");
@@ -81,6 +83,7 @@ public final class RulesTest {
         seen(6, "private int f() { try { return 1; } finally { int a = 1; } }");
         seen(6, "private int f(int n) { assert n > 0; return n; }");
         seen(6, "private int f() { synchronized (this) { return 1; } }");
+        seen(6, "private synchronized int f() { return 1; }");
         seen(6, "private int f() throws RuntimeException { return 1; }");
         seen(6, "public int hashCode() { return 1; }");
         seen(6, "interface A { } static final class B implements A { }"
